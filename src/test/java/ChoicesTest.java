@@ -29,6 +29,12 @@ public final class ChoicesTest {
         best(Check.with("d0;p009;p011;p011;p201", 5), 3, 5, 9);
         // a bell at 59 is no help to somebody who may come at 0
         best(Check.with("d0;p591;p591", 59), 0, 0, 0);
+        // the last comes ahead: at 5, as at 0 only 0 stands there
+        best(Check.with("d2;p009;p011;p011;p201", 5), 3, 5, 9);
+        // a half does not turn three
+        best(Check.with("d1;p009;p011;p011;p201", 5), 3, 0, 9);
+        // a mother who comes at 0 stands ahead of 0, who stands there as she comes
+        best(Check.with("d0;p009;p011;m201"), 2, 0, 0);
         // ahead of all: others come first at 10
         best(Check.with("d0;p102;p102;p102"), 2, 0, 0);
     }

@@ -14,6 +14,7 @@ public final class SheetsTest {
         greet();
         as();
         faultStays();
+        faultIsOfTheLatest();
         many();
         check.end();
     }
@@ -218,6 +219,35 @@ public final class SheetsTest {
         check.due("fault() of put", x.fault(), 1);
         x.put(4, 0, 0);
         check.due("fault() of a put that is refused", x.fault(), 0);
+    }
+
+    private static void clears(String call, long got, long want) {
+        answers(call, got, want, 0);
+        answers("a fault again", x.as(0, 2), -12, 2);
+    }
+
+    /** Each call that names faults tells 0 where it comes to none or is refused. */
+    private static void faultIsOfTheLatest() {
+        x = Check.with("d0;p004;m005");
+        answers("a fault", x.as(0, 2), -12, 2);
+        clears("day, no sheet", x.day(4, 0, 0, 0), TurnQueue.UNKNOWN);
+        clears("day, no lane", x.day(0, 3, 0, 0), TurnQueue.OUTSIDE);
+        clears("day, no text", x.day(0, 0, 1, 2), -100);
+        clears("sheet, no sheet", x.sheet(4, 0, 0), TurnQueue.UNKNOWN);
+        clears("sheet, no lane", x.sheet(0, 3, 0), TurnQueue.OUTSIDE);
+        clears("sheet", x.sheet(1, 0, 2), 1);
+        clears("put, no sheet", x.put(4, 0, 0), TurnQueue.UNKNOWN);
+        clears("put", x.put(1, 0, 5), 1);
+        clears("cell, no sheet", x.cell(4, 0, 0), TurnQueue.LOST);
+        clears("cell, no lane", x.cell(1, 0, 3), TurnQueue.LOST);
+        clears("cell", x.cell(1, 0, 0), 5);
+        clears("copy, no sheet", x.copy(1, 0, 4, 0, 0), TurnQueue.UNKNOWN);
+        clears("copy", x.copy(1, 0, 0, 0, 1), 1);
+        clears("as, no person", x.as(2, 0), TurnQueue.UNKNOWN);
+        clears("as, no kind", x.as(0, 3), TurnQueue.OUTSIDE);
+        clears("as", x.as(1, 1), 1);
+        x.put(0, 0, 'd');
+        clears("day", x.day(0, 0, 0, 7), 1);
     }
 
     private static void many() {
