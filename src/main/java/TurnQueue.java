@@ -15,8 +15,8 @@ public final class TurnQueue {
 
     private final Plan plan = new Plan();
     private final Counter counter = new Counter();
-    private final Choices choices = new Choices(counter);
-    private final Ringers ringers = new Ringers(counter);
+    private final Choices choices = new Choices();
+    private final Ringers ringers = new Ringers();
     private final Readings readings = new Readings();
     private final Sheet[] sheets = new Sheet[SHEETS];
     private int traced = 0;
@@ -455,6 +455,7 @@ public final class TurnQueue {
         }
 
         void turn(int law) {
+            if (size < 2) return;
             if (law == 2) {
                 insert(0, remove(size - 1));
             } else {
@@ -516,7 +517,7 @@ public final class TurnQueue {
                     turnable |= 1L << minute;
                     if (hasMinute(plan.bells, minute)) line.turn(plan.law);
                 }
-                if (serving == NONE && line.size > 0) serveFirst(plan, minute);
+                if (serving == NONE) serveFirst(plan, minute);
             }
         }
 
@@ -557,25 +558,23 @@ public final class TurnQueue {
         }
 
         private void serveFirst(Plan plan, int minute) {
-            serving = line.remove(0);
-            servedAt[serving] = minute;
-            doneAt = minute + plan.wants[serving];
-            awaited &= ~(1 << serving);
+            int first = line.remove(0);
+            if (first == NONE) return;
+            serving = first;
+            servedAt[first] = minute;
+            doneAt = minute + plan.wants[first];
+            awaited &= ~(1 << first);
         }
     }
 
     /** What a PERSON does best. It tries on a guess, so that the plan asked about stays as it is. */
     private static final class Choices {
-        private final Counter counter;
+        private final Counter counter = new Counter();
         final Plan guess = new Plan();
         /** What the latest question found. */
         int minute = NONE;
         int servedThen = 0;
         int rounds = 0;
-
-        Choices(Counter counter) {
-            this.counter = counter;
-        }
 
         void findBest(Plan plan, int p) {
             guess.takeFrom(plan);
@@ -690,7 +689,7 @@ public final class TurnQueue {
     /** Which BELLS there could be, and who could be there; it tries on a guess, too. */
     private static final class Ringers {
         private static final int FARTHEST = 3;
-        private final Counter counter;
+        private final Counter counter = new Counter();
         private final Plan guess = new Plan();
         private final long[] turnableBehind = new long[MINUTES];
         /** What the latest question found. */
@@ -699,10 +698,6 @@ public final class TurnQueue {
         int sets = 0;
         int firstMinute = NONE;
         int secondMinute = NONE;
-
-        Ringers(Counter counter) {
-            this.counter = counter;
-        }
 
         void findMove(Plan plan, int p) {
             guess.takeFrom(plan);
@@ -716,7 +711,7 @@ public final class TurnQueue {
         private void tryMoves(Plan plan, int p, int bell) {
             for (int to = bell - FARTHEST; to <= bell + FARTHEST; to++) {
                 if (!isMinute(to) || hasMinute(plan.bells, to)) continue;
-                guess.bells = plan.bells ^ 1L << bell ^ 1L << to;
+                guess.bells = plan.bells ^ (1L << bell) ^ (1L << to);
                 int served = counter.servedOf(guess, p);
                 if (served >= servedThen) continue;
                 servedThen = served;

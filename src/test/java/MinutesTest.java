@@ -112,6 +112,10 @@ public final class MinutesTest {
         x.bell(4, true);
         x.runOut(1, 4);
         check.stands(x, 4, "0|1432");
+        TurnQueue first = Check.with("d0;p021;p009;p022");
+        first.runOut(0, 3);
+        check.stands(first, 2, "1|02");
+        check.stands(first, 3, "1|20");
         // those who run out at once go by their numbers, whoever stood ahead
         TurnQueue two = Check.with("d0;p009;p011;p011;p011", 1);
         two.runOut(1, 2);

@@ -15,7 +15,7 @@ public final class ModelTest {
             random = new Random(run);
             x = new TurnQueue();
             model = new Model();
-            int calls = 0;
+            int calls = newDay("run " + run + ": ");
             while (calls < CALLS - 60) calls += step("run " + run + ", call " + calls + ": ");
         }
         check.end();
@@ -34,12 +34,16 @@ public final class ModelTest {
         return random.nextInt(20) == 0 ? random.nextInt(12) - 3 : random.nextInt(Math.max(1, model.many(0)));
     }
 
+    /** Mostly about when somebody comes: else few bells and few who run out would find a queue. */
     private static int minute() {
-        return random.nextInt(20) == 0 ? random.nextInt(80) - 10 : random.nextInt(random.nextBoolean() ? 60 : 15);
+        if (random.nextInt(20) == 0) return random.nextInt(80) - 10;
+        if (model.many(0) == 0 || random.nextInt(3) == 0) return random.nextInt(60);
+        return (model.ofPerson(random.nextInt(model.many(0)), 1) + random.nextInt(12)) % 60;
     }
 
     private static int late() {
-        return random.nextInt(20) == 0 ? random.nextInt(220) - 10 : random.nextInt(random.nextBoolean() ? 125 : 20);
+        if (random.nextInt(20) == 0) return random.nextInt(220) - 10;
+        return random.nextBoolean() ? random.nextInt(125) : Math.max(0, minute());
     }
 
     private static int what() {

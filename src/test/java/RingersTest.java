@@ -41,6 +41,9 @@ public final class RingersTest {
         TurnQueue first = Check.with("d0;p001;p003", 1);
         ringer("to 0", first, 1, 100, 0);
         ringer("to 0", first, 0, TurnQueue.NONE, 0);
+        TurnQueue from = Check.with("d0;p001;p003", 0);
+        ringer("from 0", from, 0, 1, 0);
+        ringer("from 0", from, 1, TurnQueue.NONE, 0);
         TurnQueue last = Check.with("d0;p599;p599", 56);
         ringer("to 59", last, 1, 5659, 59);
         TurnQueue off = Check.with("d0;p599;p599", 59);
