@@ -110,7 +110,8 @@ public final class ChoicesEdgesTest {
     }
 
     static void calmBehindManyRounds() {
-        check.says("round after round (40 at most)");
+        check.says("CALM: round after round (40 at most)");
+        check.says("CALM: behind how many rounds (p -1); the minute at which a PERSON COMES behind them (behind 40, if it is not in 40).");
         // the day with the most rounds that was ever found; the model goes through them, too
         TurnQueue x = Check.with("d1;m365;m123;m253;m283;m268;m048;m308", 8, 16);
         x.runOut(1, 17);
@@ -159,6 +160,13 @@ public final class ChoicesEdgesTest {
         check.due("the bell puts the greatest first", Check.with("d0;p001;p009", 0).loss(), 10000 + 9 - 1);
         // 0 to 6 want 9 to 1 at minute 0: served by numbers they wait 9 17 24 30 35 39, the least first 1 4 8 13 19 26
         check.due("seven", Check.with("d0;p009;p008;p007;p006;p005;p004;p001").loss(), 10000 + 154 - (1 + 5 + 10 + 16 + 23 + 31));
+    }
+
+    static void lossOfLikeOnes() {
+        check.says("(of like ones the least number; COMING as they do, who is being served stays)");
+        // those who want the same wait the same together, whoever is first
+        check.due("turned", Check.with("d0;p004;p004;p004", 0, 1, 2).loss(), 10000);
+        check.due("one who wants less", Check.with("d0;p004;p004;p003").loss(), 10000 + (4 + 8) - (3 + 7));
     }
 
     static void lossWhereTheLeastComesLater() {

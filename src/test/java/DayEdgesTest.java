@@ -173,7 +173,7 @@ public final class DayEdgesTest {
     }
 
     static void minutesAndWants() {
-        check.says("two digits 00 .. 59 (the minute at which it COMES), a digit 1 .. 9 (what it WANTS).");
+        check.says("each: ; and a letter, two digits 00 .. 59 (the minute at which it COMES), a digit 1 .. 9 (what it WANTS).");
         for (int wants = 1; wants <= 9; wants++) {
             TurnQueue x = Check.with("d0;p00" + wants + ";p59" + wants);
             check.due("comes at 00", x.ofPerson(0, 1), 0);
@@ -292,7 +292,7 @@ public final class DayEdgesTest {
     }
 
     static void noneOfTheCells() {
-        check.says("of cells from i on also where i is not 0 .. how many there are, if none of them is taken, too");
+        check.says("3 INDEX (of cells from i on also where i is not 0 .. how many there are, if none of them is taken, too");
         TurnQueue x = new TurnQueue();
         Check.lay(x, 0, 0, "d0;p001");
         for (int i = 0; i <= 7; i++) check.due(x, "day(0, 0, " + i + ", 0)", x.day(0, 0, i, 0), -100, 0);
@@ -478,6 +478,7 @@ public final class DayEdgesTest {
 
     static void bellsAsBits() {
         check.says("BELLS, as a set (of a long).");
+        check.says("Sets are told as bits (bit k for number k).");
         check.due("none", Check.with("d0;p301").bells(), 0);
         check.due("0", Check.with("d0;p301", 0).bells(), 1);
         check.due("30, 31, 32", Check.with("d0;p301", 30, 31, 32).bells(), 7516192768L);

@@ -49,6 +49,22 @@ public final class MinutesEdgesTest {
         check.due("alone in the queue", alone.served(1), 9);
     }
 
+    static void theFirstAndTheLastNumberRunOut() {
+        check.says("who RUNS OUT of the QUEUE at this minute (not who is being served) goes to its end");
+        TurnQueue x = Check.with("d0;p011;p011;p011;p009;p011;p011;p011");
+        x.runOut(0, 2);
+        check.stands(x, 1, "3|012456");
+        check.stands(x, 2, "3|124560");
+        x.runOut(0, TurnQueue.NONE);
+        x.bell(1, true);
+        x.runOut(6, 2);
+        check.stands(x, 1, "3|654210");
+        check.stands(x, 2, "3|542106");
+        // all of them, by numbers
+        for (int p = 0; p < 7; p++) x.runOut(p, 2);
+        check.stands(x, 2, "3|012456");
+    }
+
     static void whoIsBeingServedStays() {
         check.says("who RUNS OUT of the QUEUE at this minute (not who is being served) goes to its end");
         for (int minute : new int[] {0, 1, 4}) {
@@ -307,6 +323,7 @@ public final class MinutesEdgesTest {
     }
 
     static void queueAtTheFirstAndTheLastMinute() {
+        check.says("MINUTES 0 .. 199.");
         check.says("As a minute (0 .. 199) is over: who is being served (k -1), the k-th of the QUEUE (0 on); NONE: nobody, there are fewer.");
         TurnQueue x = Check.with("d0;p001;p001;p001");
         check.due("queue(0, -1)", x.queue(0, -1), 0);
@@ -391,6 +408,19 @@ public final class MinutesEdgesTest {
         share("d0;p005;p001;p101;p201;p301;p401", 5, 6);
         share("d0;p007;p001;p101;p201;p301;p401;p501", 1, 1);
         share("d0;p006;p001;p101;p201;p301;p401;p501", 6, 7);
+    }
+
+    static void whatEachWaits() {
+        check.says("WAITS: SERVED less the minute at which it COMES.");
+        // served at 0, 9, 10: they wait 0, 9 and 5
+        share("d0;p009;p001;p051", 14, 3);
+        // who comes as the counter is free waits nothing, as late as it may be
+        share("d0;p009;p599", 0, 1);
+        TurnQueue x = Check.with("d0;p009;p001;p051", 5);
+        // the bell puts 2 ahead of 1: served at 0, 10, 9
+        check.due("waits(0)", x.waits(0), 14);
+        x.come(2, 8);
+        check.due("waits(0), 2 comes at 8", x.waits(0), 11);
     }
 
     static void theMostThatAllCanWait() {

@@ -76,7 +76,7 @@ public final class RingersEdgesTest {
     }
 
     static void noneIsMoved() {
-        check.says("of several none, if it is one, else the least BELL, then the least minute");
+        check.says("(to a minute 0 .. 59 that is no BELL), or none: by which a PERSON is SERVED the soonest: of several none, if it is one");
         ringer("no bells", Check.with(BOTH), 0, TurnQueue.NONE, 30);
         ringer("no bells", Check.with(BOTH), 1, TurnQueue.NONE, 39);
         // any move of 20, too, serves 1 at 30, but so does none
@@ -146,7 +146,7 @@ public final class RingersEdgesTest {
     }
 
     static void paysAtTheLastMinute() {
-        check.says("if it RAN OUT at a minute (in place of when it does), the best of 0 .. 59 (0 at least)");
+        check.says("PAYS: by how much sooner a PERSON were SERVED, if it RAN OUT at a minute (in place of when it does), the best of 0 .. 59 (0 at least).");
         // 1 and 2 come at 58 and turn at 59: only who runs out in that minute itself is last then
         TurnQueue x = Check.with("d0;p589;p581;p581", 59);
         pays("at 59", x, 1, 1, 59);
@@ -278,7 +278,7 @@ public final class RingersEdgesTest {
     }
 
     static void whichOfAllSets() {
-        check.says("of all sets of 0, 1 or 2 minutes 0 .. 59 as the BELLS those by which all READINGS are so: how many");
+        check.says("WHICH: of all sets of 0, 1 or 2 minutes 0 .. 59 as the BELLS those by which all READINGS are so: how many");
         which("no READING", Check.with(BOTH), 1831, TurnQueue.NONE, TurnQueue.NONE);
         which("no READING, bells", Check.with(BOTH, 1, 2, 3), 1831, TurnQueue.NONE, TurnQueue.NONE);
         TurnQueue x = Check.with(BOTH);
@@ -294,7 +294,7 @@ public final class RingersEdgesTest {
     }
 
     static void whichFindsNone() {
-        check.says("NONE: there is none, there are fewer.");
+        check.says("WHICH: how many (q -1), the q-th minute of the first (0, 1); NONE: there is none, there are fewer.");
         TurnQueue x = Check.with(BOTH);
         x.reading(0, 0);
         which("ahead of coming", x, 0, TurnQueue.NONE, TurnQueue.NONE);
@@ -308,6 +308,20 @@ public final class RingersEdgesTest {
         x.back(1);
         x.reading(0, 31);
         which("one at two minutes", x, 0, TurnQueue.NONE, TurnQueue.NONE);
+    }
+
+    static void whichFindsNoneBehindSome() {
+        check.says("NONE: there is none, there are fewer.");
+        TurnQueue x = Check.with("d0;p109;p101;p209;p201");
+        x.reading(1, 10);
+        x.reading(3, 20);
+        which("two minutes", x, 1, 10, 20);
+        x.reading(0, 10);
+        which("none", x, 0, TurnQueue.NONE, TurnQueue.NONE);
+        x.back(2);
+        which("one minute", x, 60, 10, TurnQueue.NONE);
+        x.back(1);
+        which("no minute", x, 1831, TurnQueue.NONE, TurnQueue.NONE);
     }
 
     static void whichAtTheFirstAndTheLastMinute() {
@@ -363,6 +377,16 @@ public final class RingersEdgesTest {
     }
 
     // ---- promise 19
+
+    static void noonAsBits() {
+        check.says("Sets are told as bits (bit k for number k).");
+        for (int p = 0; p < 7; p++) {
+            // all but p come too late
+            StringBuilder text = new StringBuilder("d0");
+            for (int q = 0; q < 7; q++) text.append(q == p ? ";p051" : ";p591");
+            check.due("only " + p, Check.with(text.toString()).noon(5), 1 << p);
+        }
+    }
 
     static void noonAtItsEdges() {
         check.says("NOON: the greatest set of PERSONS who alone, in place of all, were all SERVED by a minute (0 .. 199)");

@@ -247,7 +247,7 @@ public final class SheetsEdgesTest {
     }
 
     static void copyNoneAtTheVeryEnd() {
-        check.says("of cells from i on also where i is not 0 .. how many there are, if none of them is taken, too");
+        check.says("3 INDEX (of cells from i on also where i is not 0 .. how many there are, if none of them is taken, too");
         TurnQueue x = numbered(0, 5);
         x.sheet(1, 0, 3);
         check.due(x, "both ends", x.copy(0, 5, 1, 3, 0), 0, 0);
@@ -354,7 +354,7 @@ public final class SheetsEdgesTest {
     }
 
     static void traceWraps() {
-        check.says("TRACE (an int that wraps, 0 at first, becomes 31 times it and the number) as they begin");
+        check.says("TELLING of PERSONS by bodies that leave their number in TRACE (an int that wraps, 0 at first, becomes 31 times it and the number) as they begin");
         TurnQueue x = Check.with("d0;p004");
         check.due("0 at first", x.trace(), 0);
         int[] want = {1, 32, 993, 30784, 954305, 29583456, 917087137, -1635069824, 852443009, 655929504};
@@ -412,6 +412,35 @@ public final class SheetsEdgesTest {
         x.put(0, 0, 0);
         check.due("NULL", x.fault(), 1);
         check.due("asked again", x.fault(), 1);
+    }
+
+    /** Behind a FAULT each call that names FAULTS tells its own, each other one leaves that FAULT. */
+    static void faultOfTheLatest() {
+        check.says("The FAULT of the latest call that names one: 0: it came to none, or was refused (0 ahead of any).");
+        TurnQueue x = Check.with("d0;p001;c001");
+        x.sheet(1, 1, 2);
+        check.due(x, "a FAULT", x.as(0, 2), -12, 2);
+        check.due(x, "as", x.as(1, 2), 1, 0);
+        check.due(x, "a FAULT", x.put(3, 0, 0), -11, 1);
+        check.due(x, "put", x.put(1, 1, 5), 1, 0);
+        check.due(x, "a FAULT", x.sheet(2, 0, -1), -14, 4);
+        check.due(x, "sheet", x.sheet(2, 0, 0), 1, 0);
+        check.due(x, "a FAULT", x.cell(1, 2, 1), TurnQueue.LOST, 3);
+        check.due(x, "cell", x.cell(1, 1, 1), 5, 0);
+        check.due(x, "a FAULT", x.copy(1, 0, 0, 0, 0), -12, 2);
+        check.due(x, "copy", x.copy(1, 1, 1, 0, 1), 1, 0);
+        check.due(x, "a FAULT", x.day(0, 0, 0, -1), -14, 4);
+        check.due(x, "day, a text that is not taken", x.day(0, 0, 0, 3), -103, 0);
+        check.due(x, "a FAULT", x.day(0, 0, 13, 0), -13, 3);
+        check.due(x, "day", x.day(0, 0, 0, 12), 2, 0);
+        check.due(x, "a FAULT", x.day(0, 1, 0, 12), -12, 2);
+        check.due(x, "lose", x.lose(2), 1, 2);
+        check.due(x, "lose, nothing", x.lose(2), 0, 2);
+        check.due(x, "bell", x.bell(5, true), 1, 2);
+        check.due(x, "bell, refused", x.bell(60, true), TurnQueue.UNKNOWN, 2);
+        check.due(x, "many, refused", x.many(4), TurnQueue.OUTSIDE, 2);
+        check.due(x, "waits, LOST", x.waits(2), TurnQueue.LOST, 2);
+        check.due(x, "tell", x.tell(0), 1, 2);
     }
 
     static void faultNumbers() {
