@@ -7,8 +7,12 @@ import java.nio.charset.StandardCharsets;
 import java.nio.file.Files;
 import java.nio.file.Path;
 import java.util.List;
+import java.util.Map;
 import java.util.Set;
+import java.util.TreeMap;
 import java.util.TreeSet;
+import java.util.regex.Matcher;
+import java.util.regex.Pattern;
 
 /** The public face, and those rules of LANGUAGE.md that can be seen in the class and its source. */
 public final class FaceTest {
@@ -53,6 +57,9 @@ public final class FaceTest {
         is("the methods are " + open, open.equals(METHODS));
         for (Method method : TurnQueue.class.getDeclaredMethods()) {
             if (Modifier.isPrivate(method.getModifiers())) is(method + " has a name of its own", !names.contains(method.getName()));
+        }
+        for (Class<?> inside : TurnQueue.class.getDeclaredClasses()) {
+            for (Method method : inside.getDeclaredMethods()) is(method + " has a name of its own", !names.contains(method.getName()));
         }
         Constructor<?>[] constructors = TurnQueue.class.getDeclaredConstructors();
         is("one constructor, public, of nothing", constructors.length == 1
@@ -105,6 +112,8 @@ public final class FaceTest {
         is("no loop without a bound", !code.matches("(?s).*(for \\(;|while \\(true).*"));
         lengthOfMethods(code.split("\n"));
         objectsAreMadeOnce(code.split("\n"));
+        is("no texts, so none are joined", !code.contains("\""));
+        depthOfCalls(code.split("\n"));
     }
 
     /** A method of a class inside ends with its closing brace at its own indent, as all here do. */
@@ -117,6 +126,29 @@ public final class FaceTest {
                 begun = -1;
             }
         }
+    }
+
+    /** Methods of one name are taken as one, so that the depth found may be too great, but not too small. */
+    private static void depthOfCalls(String[] lines) {
+        Map<String, Set<String>> calls = new TreeMap<>();
+        Pattern head = Pattern.compile(" {4,8}[^ }=;]+( [^ }=;]+)* (\\w+)\\([^()]*\\) \\{");
+        Pattern call = Pattern.compile("\\b([a-z]\\w*)\\(");
+        String within = "";
+        for (String line : lines) {
+            Matcher begins = head.matcher(line);
+            if (begins.matches()) calls.putIfAbsent(within = begins.group(2), new TreeSet<>());
+            else if (!within.isEmpty()) for (Matcher found = call.matcher(line); found.find(); ) calls.get(within).add(found.group(1));
+        }
+        for (Method method : TurnQueue.class.getDeclaredMethods()) is(method + " is found in the source", calls.containsKey(method.getName()));
+        for (String name : calls.keySet()) is(name + " goes at most eight deep", depth(calls, name, 0) <= 8);
+    }
+
+    /** How many calls stand open at once, this one and the library's too; a recursion goes beyond all bounds. */
+    private static int depth(Map<String, Set<String>> calls, String name, int above) {
+        int deepest = 0;
+        if (above > 20) return 1000;
+        for (String called : calls.getOrDefault(name, Set.of())) deepest = Math.max(deepest, depth(calls, called, above + 1));
+        return 1 + deepest;
     }
 
     /** All calls of a run share one room: rows and objects are made with the object, not by calls. */
